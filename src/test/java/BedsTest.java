@@ -215,7 +215,8 @@ public final class BedsTest {
         d.due("deal(-1)", x.deal(-1), BAD);
         d.due("deal(MIN)", x.deal(Integer.MIN_VALUE), BAD);
         d.due("z, none was drawn", x.count(7), 1);
-        d.due("deal(7)", x.deal(7), 7);
+        d.due("deal(1)", x.deal(1), 1);
+        d.due("deal(6)", x.deal(6), 6);
         d.due("deal(7), room for three", x.deal(7), 3);
         int z = x.count(7);
         d.due("deal(10), no room", x.deal(10), 0);

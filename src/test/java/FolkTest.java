@@ -11,6 +11,7 @@ public final class FolkTest {
         sends();
         who();
         aNightInEachKind();
+        anEmptyHammock();
         aNightByWidth();
         aNightByNumbers();
         aNightOfHours();
@@ -175,6 +176,24 @@ public final class FolkTest {
         d.due("awake", x.land(1), 1);
         d.due("the hammock swayed back", x.told(3, 1), 3);
         d.due("the night", x.count(1), 2);
+    }
+
+    private static void anEmptyHammock() {
+        BedsArePlaces x = still();
+        x.bed(3, 0, 5, 0);
+        x.one(1, 1);
+        x.nights(1);
+        d.due("a hammock that is empty does not sway", x.told(0, 1), 0);
+        x.sends(0, 0, 0);
+        x.bed(0, 5, 0, 0);
+        x.nights(1);
+        d.due("it sways", x.told(0, 1), 5);
+        d.due("who woke at 5", x.folk(0, 0), 5);
+        x.one(5, 0);
+        x.nights(1);
+        d.due("it sways once, though two lie in it", x.told(0, 1), 0);
+        d.due("one", x.folk(0, 0), 0);
+        d.due("and the other one", x.folk(1, 0), 0);
     }
 
     private static void aNightByWidth() {

@@ -103,6 +103,9 @@ public final class RowsTest {
             d.due("check(3), two too many", x.check(3), 7);
             tellAll(x, rows, 7);
             d.due("check(3), one too many", x.check(3), 7);
+            tellAll(x, rows, 8);
+            x.tell(-5);
+            d.due("check(3), three too many", x.check(3), 7);
         }
     }
 
@@ -194,6 +197,13 @@ public final class RowsTest {
         d.due("count(3)", y.count(3), 1);
         d.due("folk(0, 0)", y.folk(0, 0), 1);
         d.due("told(1, 0)", y.told(1, 0), 4);
+        y.one(3, 4);
+        y.sends(1, 2, 9);
+        y.sends(1, 3, 1);
+        y.back();
+        y.one(6, 6);
+        d.due("folk(1, 2): a new one, not the one that was", y.folk(1, 2), 0);
+        d.due("folk(1, 3)", y.folk(1, 3), 0);
         BedsArePlaces none = new BedsArePlaces();
         d.due("keep(), no beds", none.keep(), 0);
         none.bed(0, 0, 0, 0);

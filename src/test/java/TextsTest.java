@@ -54,6 +54,13 @@ public final class TextsTest {
         x.feed(0x2B312020, 0x20202020, 0x20202020);
         d.due("text(): goes on behind what was kept", x.text(), 0);
         d.due("fee()", x.fee(), 124);
+        x.feed(0x66656520, 0x73737320, 0x20202020);
+        x.trim(5);
+        d.due("text(): what was trimmed is read no more", x.text(), 1);
+        x.feed(0x66656520, 0x37373737, 0x37202020);
+        x.trim(5);
+        d.due("text(): nor digits", x.text(), 2);
+        d.due("fee()", x.fee(), 7);
     }
 
     private static void text() {
@@ -78,6 +85,13 @@ public final class TextsTest {
         Due.text(y, "fee 5");
         Due.text(y, "fee 6+");
         d.due("fee(): one with a fault does not count", y.fee(), 5);
+        d.due("the next one", Due.text(y, "fee s+7"), 1);
+        d.due("fee(): nothing is left of the one with a fault", y.fee(), 7);
+        d.due("textTold(1, 1): nor is here", y.textTold(1, 1), 2);
+        Due.text(y, "fee sa");
+        d.due("the next one, behind a fault in a word", Due.text(y, "hours t"), 2);
+        Due.text(y, "fee 12345");
+        d.due("the next one, behind a fault in a number", Due.text(y, "fine f"), 3);
     }
 
     private static void place(String bytes, int place) {
@@ -100,6 +114,10 @@ public final class TextsTest {
         place("fee 9999", -1);
         place("fee 0000", -1);
         place("fees", 0);
+        place("gee s", 0);
+        place("hourz t", 0);
+        place("fee sz", 4);
+        place("fee az", 4);
         place("fee7", 3);
         place("hours7", 5);
         place("fine12345", 4);
@@ -174,6 +192,8 @@ public final class TextsTest {
         place("hours x", 6);
         place("fee " + "s+".repeat(45) + "s", -1);
         place("fee " + "s+".repeat(46), 96);
+        place("fee  " + "s+".repeat(45) + "s", -1);
+        place("fee  " + "s+".repeat(45) + "7", -1);
     }
 
     private static void depth() {
