@@ -1,11 +1,17 @@
 import java.nio.charset.StandardCharsets;
 import java.util.Arrays;
+import java.util.LinkedHashSet;
+import java.util.Set;
 
 /** What the tests share: it counts what is not due, and ends the program with it. */
 final class Due {
     private static final int SHOWN = 50;
     private final String test;
     private String about = "";
+    private String sentence = "";
+    private final Set<String> sentences = new LinkedHashSet<>();
+    private final Set<String> wrongSentences = new LinkedHashSet<>();
+    private boolean silent;
     private int seen;
     private int wrong;
 
@@ -17,11 +23,27 @@ final class Due {
         about = "promise " + number + ": ";
     }
 
+    /** A test of its own for words of the document. What it throws is not due either. */
+    void sentence(String part, String words, Runnable its) {
+        sentence = part + ": " + words;
+        about = sentence + ": ";
+        holds("each sentence is told once", sentences.add(sentence));
+        holds("the document says so there", Document.has(part, words));
+        try {
+            its.run();
+        } catch (RuntimeException | StackOverflowError thrown) {
+            holds("no call throws, but " + thrown, false);
+        }
+        about = "";
+        sentence = "";
+    }
+
     void due(String call, long got, long want) {
         seen++;
         if (got != want) {
             wrong++;
-            if (wrong <= SHOWN) {
+            wrongSentences.add(sentence);
+            if (wrong <= SHOWN && !silent) {
                 System.out.println(about + call + " answered " + got + ", due is " + want);
             }
         }
@@ -29,6 +51,25 @@ final class Due {
 
     void holds(String what, boolean holds) {
         due(what, holds ? 1 : 0, 1);
+    }
+
+    void same(String what, String got, String want) {
+        seen++;
+        if (!got.equals(want)) {
+            due(what + ": " + got + " where due is " + want, 0, 1);
+        }
+    }
+
+    void beSilent() {
+        silent = true;
+    }
+
+    Set<String> sentences() {
+        return sentences;
+    }
+
+    Set<String> wrongSentences() {
+        return wrongSentences;
     }
 
     void end() {
@@ -40,12 +81,11 @@ final class Due {
 
     /** Makes the tape just these bytes: it must hold none. */
     static void feed(BedsArePlaces x, String bytes) {
-        byte[] all = bytes.getBytes(StandardCharsets.ISO_8859_1);
-        byte[] full = Arrays.copyOf(all, (all.length + 11) / 12 * 12);
-        for (int i = 0; i < full.length; i += 12) {
-            x.feed(four(full, i), four(full, i + 4), four(full, i + 8));
+        int[] fours = fours(bytes);
+        for (int i = 0; i < fours.length; i += 3) {
+            x.feed(fours[i], fours[i + 1], fours[i + 2]);
         }
-        x.trim(all.length);
+        x.trim(bytes.length());
     }
 
     static int text(BedsArePlaces x, String bytes) {
@@ -53,8 +93,15 @@ final class Due {
         return x.text();
     }
 
-    private static int four(byte[] bytes, int at) {
-        return (bytes[at] & 255) << 24 | (bytes[at + 1] & 255) << 16 | (bytes[at + 2] & 255) << 8 | bytes[at + 3] & 255;
+    /** Bytes as feed takes them: three numbers for each twelve, filled up by bytes 0. */
+    static int[] fours(String bytes) {
+        byte[] all = bytes.getBytes(StandardCharsets.ISO_8859_1);
+        byte[] full = Arrays.copyOf(all, (all.length + 11) / 12 * 12);
+        int[] fours = new int[full.length / 4];
+        for (int i = 0; i < fours.length; i++) {
+            fours[i] = (full[4 * i] & 255) << 24 | (full[4 * i + 1] & 255) << 16 | (full[4 * i + 2] & 255) << 8 | full[4 * i + 3] & 255;
+        }
+        return fours;
     }
 
     /** All that an object tells of itself: two that stand alike tell the same. */

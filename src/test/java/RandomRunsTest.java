@@ -59,6 +59,9 @@ public final class RandomRunsTest {
     private void due(String what, int got, int want) {
         calls++;
         d.due("call " + calls + ", " + what, got, want);
+        if (calls > CALLS) {
+            d.holds("one object is called " + CALLS + " times at most", false);
+        }
     }
 
     /** Mostly what may be, now and then anything. */
@@ -276,8 +279,11 @@ public final class RandomRunsTest {
             case 43 -> due("lay " + call, x.lay(slot, thing, b), m.lay(slot, thing, b));
             case 44 -> due("ask " + call, x.ask(slot, kind), m.ask(slot, kind));
             default -> {
-                due("item " + call, x.item(slot, place), m.item(slot, place));
-                due("rest " + call, x.rest(slot, v - 3), m.rest(slot, v - 3));
+                if (lot.nextBoolean()) {
+                    due("item " + call, x.item(slot, place), m.item(slot, place));
+                } else {
+                    due("rest " + call, x.rest(slot, v - 3), m.rest(slot, v - 3));
+                }
             }
         }
     }

@@ -154,15 +154,22 @@ public final class RowsTest {
         d.due("check(9), one too many", x.check(9), 1);
     }
 
-    private static void keepAndBack() {
-        d.promise(44);
+    private static BedsArePlaces readyToKeep() {
         BedsArePlaces x = busy(11);
         x.turns(9, 3);
         x.sends(2, 3, 1);
         Due.text(x, "fine f+1");
-        String was = Due.all(x);
+        return x;
+    }
+
+    private static void keepAndBack() {
+        d.promise(44);
+        BedsArePlaces x = readyToKeep();
+        String was = Due.all(readyToKeep());
+        BedsArePlaces kept = readyToKeep();
+        kept.keep();
+        d.holds("it changes nothing", was.equals(Due.all(kept)));
         d.due("keep()", x.keep(), 10);
-        d.holds("it changes nothing", was.equals(Due.all(x)));
         d.promise(45);
         for (int again = 0; again < 2; again++) {
             x.nights(30);
@@ -176,7 +183,7 @@ public final class RowsTest {
             x.sends(0, 2, 1);
             x.sends(0, 3, 1);
             Due.text(x, "fine f+2");
-            d.holds("it is otherwise now", !was.equals(Due.all(x)));
+            d.holds("it is otherwise now", x.count(1) == 32 && x.fine(0) == x.told(0, 1) + 2);
             d.due("back()", x.back(), 10);
             d.holds("all is as it was", was.equals(Due.all(x)));
         }
