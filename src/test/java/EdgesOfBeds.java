@@ -62,6 +62,7 @@ final class EdgesOfBeds extends Edges {
 
     private void beds() {
         at("Section 1", "BEDS, 10 at most, numbered from 0", this::tenBeds);
+        at("Section 1", "THE LAND has TOWNS 0 .. 7", this::towns);
         at("Section 1", "OTHER (all TOWNS)", this::townsOfBeds);
         at("Promise 2", "BAD", this::bedRefused);
         at("Promise 2", "FULL", () -> refused(this::full, FULL, "bed(0, 0, 0, 0)", "bed(5, 7, 7, 7)"));
@@ -74,6 +75,21 @@ final class EdgesOfBeds extends Edges {
             x.due("told(" + i + ", 0)", BAD).due("bed(" + i % 6 + ", 1, 2, 3)", i).due("told(" + i + ", 0)", i % 6);
         }
         x.due("bed(0, 1, 2, 3)", FULL).due("count(0)", 10).due("told(10, 0)", BAD).due("told(9, 0)", 3);
+    }
+
+    private void towns() {
+        for (String call : new String[] {"who(#)", "reach(#)", "way(#, 7)", "way(0, #)", "one(#, 7)", "one(0, #)", "sends(0, 0, #)", "sends(0, 1, #)", "bed(0, #, 7, 7)", "set(7, 2, #)"}) {
+            range(() -> ring().does("one(0, 7)"), 0, 7, call);
+        }
+    }
+
+    /** From each town to the next one a bed. */
+    private Run ring() {
+        Run x = still("seed(1)");
+        for (int town = 0; town < 8; town++) {
+            x.does("bed(0, " + town + ", " + (town + 1) % 8 + ", 0)");
+        }
+        return x;
     }
 
     private void townsOfBeds() {
@@ -240,6 +256,7 @@ final class EdgesOfBeds extends Edges {
         at("Section 2", "z becomes z * 1103515245 + 12345 (an int); it gives z >>> 8", this::drawsOfAnySign);
         at("Promise 8", "n (1 .. 10) of them", () -> run().due("deal(10)", 10).due("count(0)", 10));
         at("Promise 8", "as many as there is room for (no draws for others)", this::dealtToTheRoom);
+        at("Promise 8", "how many came", () -> run().due("deal(1)", 1).due("deal(6)", 6).due("deal(5)", 3).due("deal(1)", 0).due("count(0)", 10));
         at("Promise 8", "BAD", this::dealRefused);
     }
 

@@ -20,6 +20,14 @@ final class EdgesOfRows extends Edges {
             Run x = full().due("who(0)", 1 + 256).due("who(7)", 128).due("land(4)", 1 + 16 + 256).due("behind(0, 2)", 1 + 16 + 256);
             x.does("sends(8, 3, 1); sends(0, 3, 1)").due("land(5)", 1 + 256);
         });
+        at("Terms", "and changes nothing", () -> {
+            refused(this::busy, BAD, "bed(0, 0, 0, 8)", "set(0, 3, 8)", "turns(0, 6)", "carry(101)", "deal(11)", "one(0, 8)", "sends(0, 2, 10)", "nights(101)", "trim(7)", "sheet(0, 0, 25)", "mark(1, 0, 100000)", "lay(0, 1, 5)");
+            refused(this::full, FULL, "bed(0, 0, 0, 0)", "one(0, 0)", "feed(0, 0, 0)", "tell(0)");
+            refused(this::busy, SIZE, "sheet(0, 0, -1)");
+            refused(this::busy, INDEX, "mark(0, 3, 0)", "copy(0, 0, 0, 1, 3)");
+            refused(this::busy, KIND, "mark(0, 0, NONE)", "copy(0, 0, 1, 0, 1)");
+            refused(this::busy, NOTHING, "lay(0, 2, 3)", "copy(0, 0, 3, 0, 1)");
+        });
         at("Terms", "of several the one that stands first with it", () -> {
             refused(this::full, BAD, "bed(6, 0, 0, 0)", "one(8, 0)", "sheet(4, 0, -1)", "mark(4, 99, 0)", "copy(4, 99, 0, 0, -1)", "lay(5, 2, 3)", "ask(5, 0)", "item(5, 99)", "rest(5, 0)", "whose(4, 0)");
             refused(this::run, BAD, "way(0, 8)", "missed(2)", "home(0)", "brought(0, 3)", "why(3)", "check(0)");

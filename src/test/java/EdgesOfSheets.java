@@ -60,6 +60,13 @@ final class EdgesOfSheets extends Edges {
     private void sheets() {
         at("Section 5", "SHEETS 0 .. 3 are rows of shorts (sort 0) or floats (1; whole numbers)", this::fourSheets);
         at("Section 5", "with 0 to 24 places", this::placesOfSheets);
+        at("Section 5", "A place of floats may be NO NUMBER", () -> {
+            Run x = beds(2).does("one(7, 0); one(7, 0); sheet(0, 1, 2); mark(0, 0, NONE); mark(0, 1, NONE)");
+            // It is no number for any call that reads it, and goes along with a copy and into a slot.
+            x.due("pour(0)", 0).due("reads(0)", NONE).due("whose(0, 1)", 0).does("sheet(1, 1, 3)").due("copy(0, 0, 1, 1, 2)", 2).due("reads(1)", 0);
+            places(x, 1, "0 - -");
+            x.does("mark(0, 0, 7)").due("pour(0)", 1).due("reads(0)", NONE).due("whose(0, 1)", 1);
+        });
         at("Promise 33", "all 0", () -> {
             places(shorts().does("sheet(0, 0, 4)"), 0, "0 0 0 0");
             places(shorts().does("sheet(0, 1, 5)"), 0, "0 0 0 0 0");
@@ -290,6 +297,11 @@ final class EdgesOfSheets extends Edges {
             refused(this::busy, KIND, "ask(0, 2)", "ask(0, 4)", "ask(0, 5)", "ask(1, 0)", "ask(2, 0)", "ask(3, 5)");
             refused(() -> run("bed(0, 1, 4, 2); lay(0, 1, 0)"), KIND, "ask(0, 1)", "ask(0, 2)", "ask(0, 3)", "ask(0, 4)", "ask(0, 5)");
             refused(() -> run("bed(1, 1, 4, 2); lay(0, 1, 0)"), KIND, "ask(0, 3)", "ask(0, 2)", "ask(0, 4)", "ask(0, 5)");
+        });
+        at("Promise 39", "taken for one of a KIND (0 .. 5)", () -> {
+            for (int kind = 0; kind < 6; kind++) {
+                run("bed(" + kind + ", 1, 4, 2); lay(0, 1, 0)").due("ask(0, " + kind + ")", new int[] {3, 8, 6, 16, 8, 1}[kind]).due("ask(0, -1)", BAD).due("ask(0, 6)", BAD);
+            }
         });
         at("Promise 39", "NOTHING", () -> refused(this::busy, NOTHING, "ask(4, 0)", "ask(4, 5)"));
         at("Promise 39", "BAD", () -> {
